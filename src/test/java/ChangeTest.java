@@ -11,7 +11,9 @@ public final class ChangeTest {
         coveredOnlyBeforeTheChange();
         testsThatFailCountToo();
         cutTestsCountToo();
+        severalTestsForget();
         alikeFollowsTheNumbers();
+        fullObject();
         DUE.end();
     }
 
@@ -172,6 +174,51 @@ public final class ChangeTest {
         DUE.is("known", x.mutant(0, 2), 1);
         x.change(1, -2);
         DUE.is("forgotten by a TEST that is cut", x.mutant(0, 2), -1);
+    }
+
+    /** Each TEST that covers the NUMBER forgets the outcomes at its own NODES. */
+    private static void severalTestsForget() {
+        MutantRows x = new MutantRows();
+        x.node(0, 1, 0, 0);
+        x.node(1, 0, 0, 0);
+        for (int i = 0; i < 3; i++) {
+            x.node(3, 1, i == 1 ? 1 : 0, 0);
+            x.test(2 + i, 5, i == 1 ? 10 : 6);
+        }
+        x.make(2);
+        for (int i = 0; i < 3; i++) {
+            DUE.is("killed", x.run(i, 10), 1);
+        }
+        x.change(0, 2);
+        DUE.is("by the first TEST", x.mutant(0, 2), -1);
+        DUE.is("by none", x.mutant(1, 2), 1);
+        DUE.is("by the last TEST", x.mutant(2, 2), -1);
+    }
+
+    /** 64 NODES, 24 TESTS and 100 MUTANTS: a change goes through all of them and no further. */
+    private static void fullObject() {
+        MutantRows x = new MutantRows();
+        x.node(0, 1, 0, 0);
+        for (int i = 1; i < 64; i++) {
+            x.node(3, i - 1, 0, 0);
+        }
+        for (int i = 0; i < 24; i++) {
+            x.test(63 - i, 0, 64 - i);
+        }
+        DUE.is("signs", x.make(2), 63);
+        DUE.is("firsts", x.make(4), 37);
+        for (int i = 0; i < 100; i++) {
+            DUE.is("run of " + i, x.run(i, 500), 1);
+        }
+        DUE.is("the last TEST is the nearest", x.mutant(0, 3), 23);
+        DUE.is("24 in order", x.order(0, 23), 0);
+        DUE.is("no 25th", x.order(0, 24), -1);
+        DUE.is("all known", x.score(-1, 1), 100);
+        DUE.is("none passes", x.change(0, 0), 0);
+        DUE.is("none known", x.score(-1, 1), 0);
+        DUE.is("an ADD of 0 is ALIKE", x.mutant(99, 4), 1);
+        DUE.is("all pass again", x.change(0, 1), 24);
+        DUE.is("no ADD of 1 is ALIKE", x.mutant(99, 4), 0);
     }
 
     private static void alikeFollowsTheNumbers() {

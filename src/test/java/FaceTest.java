@@ -83,7 +83,8 @@ public final class FaceTest {
     }
 
     private static void forbiddenWords() throws IOException {
-        Matcher m = Pattern.compile("\\b(throw|throws|try|catch|synchronized|assert|package|import|Object|System)\\b|->|::")
+        String words = "throw|throws|try|catch|synchronized|assert|package|import|Object|System";
+        Matcher m = Pattern.compile("\\b(" + words + ")\\b|->|::")
                 .matcher(source());
         while (m.find()) {
             DUE.is("forbidden: " + m.group(), true, false);
