@@ -12,7 +12,8 @@ import java.util.Set;
 public final class OracleTest {
     private static final Due DUE = new Due("OracleTest");
     private static final int RUNS = 600;
-    private static final int CALLS = 512;
+    // A move is one call or several: runs go past the 512 calls of the document, where the class simply goes on.
+    private static final int MOVES = 512;
 
     public static void main(String[] args) {
         for (int seed = 0; seed < RUNS && DUE.wrong() < 10; seed++) {
@@ -386,7 +387,7 @@ public final class OracleTest {
         }
 
         void play() {
-            for (int i = 0; i < CALLS; i++) {
+            for (int i = 0; i < MOVES; i++) {
                 if (i < growth || random.nextInt(30) == 0) {
                     callNode();
                 } else if (i < growth + 20 || random.nextInt(40) == 0) {
