@@ -1,6 +1,9 @@
 /** Compares answers with those that are due, and ends a test with exit code 1 if one was wrong. */
 final class Due {
     private final String name;
+    private String sentence = "";
+    private int sentences;
+    private int callsOfSentence;
     private int calls;
     private int wrong;
 
@@ -8,11 +11,18 @@ final class Due {
         this.name = name;
     }
 
+    /** The answers from here on are due by these words of the document. */
+    void by(String part, String words) {
+        endSentence();
+        sentence = part + ", \"" + words + "\": ";
+        sentences++;
+    }
+
     void is(String call, long got, long want) {
         calls++;
+        callsOfSentence++;
         if (got != want) {
-            wrong++;
-            System.out.println(call + " answered " + got + ", due is " + want);
+            tellWrong(call + " answered " + got + ", due is " + want);
         }
     }
 
@@ -25,9 +35,23 @@ final class Due {
     }
 
     void end() {
-        System.out.println(name + ": " + calls + " answers, " + wrong + " not as due");
+        endSentence();
+        System.out.println(name + ": " + sentences + " sentences, " + calls + " answers, " + wrong + " not as due");
         if (wrong != 0 || calls == 0) {
             System.exit(1);
         }
+    }
+
+    /** A sentence that no answer was looked at for has no test. */
+    private void endSentence() {
+        if (sentences > 0 && callsOfSentence == 0) {
+            tellWrong("no answer was looked at");
+        }
+        callsOfSentence = 0;
+    }
+
+    private void tellWrong(String what) {
+        wrong++;
+        System.out.println(sentence + what);
     }
 }

@@ -1,223 +1,132 @@
-/** Promises 1 and 2: a new object, node, and what the kinds of NODES are. */
+/** Promises 1 and 2: a new object and node. What the kinds of NODES are is in KindsTest. */
 public final class NodesTest {
     private static final Due DUE = new Due("NodesTest");
-    private static final long BIG = Long.MAX_VALUE;
-    private static final long LOW = Long.MIN_VALUE;
 
     public static void main(String[] args) {
-        newObjectIsEmpty();
+        noNodes();
+        noTests();
+        noMutants();
         objectsAreApart();
-        nodesAreNumberedFromZero();
-        unknownKindsAreRefused();
-        partsMustBeEarlier();
-        unusedPartsCountForNothing();
-        sixtyFourAtMost();
-        numbersOfAllKinds();
-        numbersWrapAround();
-        choiceWorksOutOneBranch();
-        loops();
-        accIsThatOfTheInnermostLoop();
-        deepestTree();
+        callsUpToTheLast();
+        numberedFromZero();
+        sixtyFour();
+        sixtyFourLevels();
+        inSeveral();
+        newNodes();
+        fullOfNodes();
+        noSuchKind();
+        aIsNotEarlier();
+        bIsNotEarlier();
+        cIsNotEarlier();
+        unusedIsNotLookedAt();
+        unusedIsNoPart();
+        unusedMakesNoDifference();
+        numberIsA();
         DUE.end();
     }
 
-    private static void newObjectIsEmpty() {
+    private static void noNodes() {
+        DUE.by("Promise 1", "No NODES");
         MutantRows x = new MutantRows();
-        DUE.is("NONE", MutantRows.NONE, -1);
-        DUE.is("test on a new object", x.test(0, 0, 0), -1);
-        DUE.is("about on a new object", x.about(0, 0), -1);
-        for (int kind = 0; kind < 6; kind++) {
-            DUE.is("make on a new object", x.make(kind), 0);
+        DUE.is("test", x.test(0, 0, 0), -1);
+        DUE.is("change", x.change(0, 0), -1);
+        DUE.is("ADD of the first NODE", x.node(3, 0, 0, 0), -1);
+        DUE.is("the first NODE", x.node(1, 0, 0, 0), 0);
+    }
+
+    private static void noTests() {
+        DUE.by("Promise 1", "no TESTS");
+        MutantRows x = new MutantRows();
+        for (int what = 0; what < 3; what++) {
+            DUE.is("about(0, " + what + ")", x.about(0, what), -1);
         }
-        DUE.is("mutant on a new object", x.mutant(0, 0), -1);
-        DUE.is("run on a new object", x.run(0, 10), -1);
-        DUE.is("order on a new object", x.order(0, 0), -1);
-        DUE.is("distance on a new object", x.distance(0, 0), -1);
-        DUE.is("change on a new object", x.change(0, 0), -1);
-        DUE.is("sampled on a new object", x.sampled(0), -1);
-        DUE.is("sample of 1 on a new object", x.sample(1, 1), false);
-        DUE.is("sample of 0 on a new object", x.sample(1, 0), true);
-        DUE.is("score on a new object", x.score(-1, 1), 0);
-        DUE.is("miss on a new object", x.miss(0), -1);
+        x.node(0, 5, 0, 0);
+        DUE.is("distance", x.distance(0, 0), -1);
+        DUE.is("none passes", x.change(0, 6), 0);
+        DUE.is("the first TEST", x.test(0, 0, 6), 0);
+    }
+
+    private static void noMutants() {
+        DUE.by("Promise 1", "no MUTANTS");
+        MutantRows x = new MutantRows();
+        for (int kind = 0; kind < 6; kind++) {
+            DUE.is("make(" + kind + ")", x.make(kind), 0);
+        }
+        for (int what = 0; what < 5; what++) {
+            DUE.is("mutant(0, " + what + ")", x.mutant(0, what), -1);
+        }
+        DUE.is("run", x.run(0, 10), -1);
+        DUE.is("order", x.order(0, 0), -1);
+        DUE.is("miss", x.miss(0), -1);
+        DUE.is("sample of 1", x.sample(1, 1), false);
+        for (int side = 0; side < 3; side++) {
+            DUE.is("score(-1, " + side + ")", x.score(-1, side), 0);
+        }
     }
 
     private static void objectsAreApart() {
-        MutantRows x = new MutantRows();
-        x.node(0, 7, 0, 0);
-        x.test(0, 0, 7);
-        x.make(0);
+        DUE.by("Promise 1", "No NODES, no TESTS, no MUTANTS");
+        MutantRows x = Built.numbers(3);
         MutantRows y = new MutantRows();
-        DUE.is("test on another object", y.test(0, 0, 7), -1);
-        DUE.is("node on another object", y.node(0, 1, 0, 0), 0);
+        DUE.is("test on another object", y.test(0, 0, 0), -1);
         DUE.is("mutant on another object", y.mutant(0, 0), -1);
+        DUE.is("node on another object", y.node(0, 9, 0, 0), 0);
+        DUE.is("test of it", y.test(0, 0, 9), 0);
+        DUE.is("the first object's TEST", x.about(0, 0), 1);
+        DUE.is("the first object's MUTANT", x.mutant(2, 1), 2);
     }
 
-    private static void nodesAreNumberedFromZero() {
+    private static void callsUpToTheLast() {
+        DUE.by("What it is", "An object is used for at most 512 calls after it has been made");
+        MutantRows x = Built.tower(0, 1, 64);
+        for (int i = 0; i < 24; i++) {
+            x.test(63 - i, 0, 64 - i);
+        }
+        x.make(2);
+        x.make(4);
+        for (int call = 91; call < 512; call++) {
+            DUE.is("call " + call, x.run(call % 100, 500), 1);
+        }
+        DUE.is("call 512", x.change(0, 0), 0);
+        // What it answers is free, but it must not throw, and it must end.
+        for (int call = 513; call < 2000; call++) {
+            x.run(call % 100, 5000);
+            x.node(call % 10, 0, 0, 0);
+            x.test(call % 64, call, call);
+            x.change(0, call);
+            x.sample(call, call % 100);
+        }
+    }
+
+    private static void numberedFromZero() {
+        DUE.by("Terms", "numbered from 0");
         MutantRows x = new MutantRows();
-        DUE.is("node(0, -9)", x.node(0, -9, 0, 0), 0);
-        DUE.is("node(1)", x.node(1, 0, 0, 0), 1);
-        DUE.is("node(2)", x.node(2, 0, 0, 0), 2);
-        for (int kind = 3; kind <= 9; kind++) {
-            DUE.is("node(" + kind + ")", x.node(kind, 0, 1, 2), kind);
+        for (int kind = 0; kind < 10; kind++) {
+            DUE.is("kind " + kind, x.node(kind, 0, 1, 2), kind);
         }
     }
 
-    private static void unknownKindsAreRefused() {
-        MutantRows x = new MutantRows();
-        x.node(1, 0, 0, 0);
-        int[] kinds = {-1, 10, 11, Integer.MAX_VALUE, Integer.MIN_VALUE};
-        for (int kind : kinds) {
-            DUE.is("node(" + kind + ")", x.node(kind, 0, 0, 0), -1);
-        }
-        DUE.is("node behind refused ones", x.node(1, 0, 0, 0), 1);
-    }
-
-    private static void partsMustBeEarlier() {
-        MutantRows x = new MutantRows();
-        for (int kind = 3; kind <= 9; kind++) {
-            DUE.is("no parts yet, kind " + kind, x.node(kind, 0, 0, 0), -1);
-        }
-        x.node(1, 0, 0, 0);
-        x.node(1, 0, 0, 0);
-        for (int kind = 3; kind <= 9; kind++) {
-            DUE.is("a is itself, kind " + kind, x.node(kind, 2, 0, 0), -1);
-            DUE.is("a below 0, kind " + kind, x.node(kind, -1, 0, 0), -1);
-            DUE.is("a of more than 32 bits, kind " + kind, x.node(kind, 1L << 32, 0, 0), -1);
-            DUE.is("a lowest, kind " + kind, x.node(kind, LOW, 0, 0), -1);
-            DUE.is("a highest, kind " + kind, x.node(kind, BIG, 0, 0), -1);
-            DUE.is("b is itself, kind " + kind, x.node(kind, 0, 2, 0), -1);
-            DUE.is("b below 0, kind " + kind, x.node(kind, 0, -1, 0), -1);
-            DUE.is("b highest, kind " + kind, x.node(kind, 0, Integer.MAX_VALUE, 0), -1);
-        }
-        DUE.is("c is itself", x.node(8, 0, 1, 2), -1);
-        DUE.is("c below 0", x.node(8, 0, 1, -1), -1);
-        DUE.is("c lowest", x.node(8, 0, 1, Integer.MIN_VALUE), -1);
-        DUE.is("a, b and c are the last one", x.node(8, 1, 1, 1), 2);
-    }
-
-    private static void unusedPartsCountForNothing() {
-        MutantRows x = new MutantRows();
-        DUE.is("NUMBER", x.node(0, LOW, -5, 99), 0);
-        DUE.is("INPUT", x.node(1, BIG, -5, 99), 1);
-        DUE.is("ACC", x.node(2, LOW, -5, 99), 2);
-        for (int kind = 3; kind <= 7; kind++) {
-            DUE.is("c of kind " + kind, x.node(kind, 0, 0, -7), kind);
-        }
-        DUE.is("c of LOOP", x.node(9, 0, 0, 1000), 8);
-    }
-
-    private static void sixtyFourAtMost() {
+    private static void sixtyFour() {
+        DUE.by("Terms", "NODES, at most 64");
         MutantRows x = new MutantRows();
         for (int i = 0; i < 64; i++) {
-            DUE.is("node " + i, x.node(0, i, 0, 0), i);
+            DUE.is("node " + i, x.node(0, 100 + i, 0, 0), i);
         }
-        DUE.is("the 65th node", x.node(0, 1, 0, 0), -1);
-        DUE.is("the 65th node of others", x.node(3, 0, 0, 0), -1);
-        DUE.is("a test of the last node", x.test(63, 0, 63), 0);
-        DUE.is("the last node's number", x.about(0, 0), 1);
-        DUE.is("a test of the 65th node", x.test(64, 0, 63), -1);
+        DUE.is("a TEST of the last one", x.test(63, 0, 163), 0);
+        DUE.is("it is the last one's number", x.about(0, 0), 1);
+        DUE.is("it covers one", x.about(0, 2), 1);
+        DUE.is("a TEST of the first one", x.test(0, 0, 100), 1);
+        DUE.is("MUTANTS at both", x.make(0), 2);
+        DUE.is("the first one's", x.mutant(0, 1), 0);
+        DUE.is("the last one's", x.mutant(1, 1), 63);
+        DUE.is("the last one's TEST", x.order(1, 0), 0);
+        DUE.is("none but that", x.order(1, 1), -1);
+        DUE.is("the last one changes", x.change(63, 5), 1);
+        DUE.is("there is no other", x.test(64, 0, 0), -1);
     }
 
-    /** A fresh tree of one NODE of a kind over NUMBERS a, b and c: whether it is `want`. */
-    private static void worksOutAs(int kind, long a, long b, long c, long want) {
-        MutantRows x = new MutantRows();
-        x.node(0, a, 0, 0);
-        x.node(0, b, 0, 0);
-        x.node(0, c, 0, 0);
-        int root = x.node(kind, 0, 1, 2);
-        x.test(root, 0, want);
-        DUE.is("kind " + kind + " of " + a + ", " + b + ", " + c + " is " + want, x.about(0, 0), 1);
-        x.test(root, 0, want + 1);
-        DUE.is("kind " + kind + " isn't another", x.about(1, 0), 0);
-    }
-
-    private static void numbersOfAllKinds() {
-        worksOutAs(3, 5, 8, 0, 13);
-        worksOutAs(4, 5, 8, 0, -3);
-        worksOutAs(5, 5, -8, 0, -40);
-        worksOutAs(6, 5, 8, 0, 1);
-        worksOutAs(6, 8, 8, 0, 0);
-        worksOutAs(6, 9, 8, 0, 0);
-        worksOutAs(6, LOW, BIG, 0, 1);
-        worksOutAs(7, 8, 8, 0, 1);
-        worksOutAs(7, 8, 9, 0, 0);
-        worksOutAs(7, 0, 1L << 32, 0, 0);
-        worksOutAs(8, 1, 20, 30, 20);
-        worksOutAs(8, -4, 20, 30, 20);
-        worksOutAs(8, 1L << 40, 20, 30, 20);
-        worksOutAs(8, 0, 20, 30, 30);
-        MutantRows x = new MutantRows();
-        x.node(1, 0, 0, 0);
-        x.node(2, 0, 0, 0);
-        x.test(0, -77, -77);
-        x.test(1, 5, 0);
-        DUE.is("INPUT is the TEST's", x.about(0, 0), 1);
-        DUE.is("ACC outside of all is 0", x.about(1, 0), 1);
-    }
-
-    private static void numbersWrapAround() {
-        worksOutAs(3, BIG, 1, 0, LOW);
-        worksOutAs(4, LOW, 1, 0, BIG);
-        worksOutAs(5, BIG, 2, 0, -2);
-        worksOutAs(5, LOW, -1, 0, LOW);
-    }
-
-    private static void choiceWorksOutOneBranch() {
-        MutantRows x = new MutantRows();
-        x.node(1, 0, 0, 0);
-        x.node(0, 4, 0, 0);
-        x.node(0, 5, 0, 0);
-        x.node(8, 0, 1, 2);
-        x.test(3, 1, 4);
-        DUE.is("steps of CHOOSE", x.about(0, 1), 3);
-        DUE.is("covered of CHOOSE", x.about(0, 2), 3);
-        DUE.is("CHOOSE passes", x.about(0, 0), 1);
-    }
-
-    private static void loops() {
-        MutantRows x = new MutantRows();
-        x.node(1, 0, 0, 0);
-        x.node(2, 0, 0, 0);
-        x.node(0, 3, 0, 0);
-        x.node(3, 1, 2, 0);
-        x.node(9, 0, 3, 0);
-        x.test(4, 7, 9);
-        DUE.is("0, 3, 6, 9 until 7", x.about(0, 0), 1);
-        DUE.is("its steps: itself, four ends, three turns", x.about(0, 1), 1 + 4 + 3 * 3);
-        x.test(4, 0, 0);
-        DUE.is("no turn at all", x.about(1, 0), 1);
-        DUE.is("itself and the end", x.about(1, 1), 2);
-        x.test(4, -5, 0);
-        DUE.is("no turn below 0", x.about(2, 0), 1);
-        x.test(4, 9, 9);
-        DUE.is("9 isn't below 9", x.about(3, 0), 1);
-        x.node(6, 1, 0, 0);
-        x.node(9, 5, 3, 0);
-        x.test(6, 2, 3);
-        DUE.is("the end sees this ACC: 0 < (0 < 2), then 3 < (3 < 2) fails", x.about(4, 0), 1);
-    }
-
-    private static void accIsThatOfTheInnermostLoop() {
-        MutantRows x = new MutantRows();
-        x.node(2, 0, 0, 0);
-        x.node(0, 2, 0, 0);
-        x.node(3, 0, 1, 0);
-        x.node(0, 5, 0, 0);
-        int inner = x.node(9, 3, 2, 0);
-        int body = x.node(3, inner, 0, 0);
-        x.node(0, 15, 0, 0);
-        int outer = x.node(9, 6, body, 0);
-        x.test(outer, 0, 18);
-        DUE.is("inner loops make 6 each, the outer ACC is there again behind them", x.about(0, 0), 1);
-        int behind = x.node(3, outer, 0, 0);
-        x.test(behind, 0, 18);
-        DUE.is("ACC is 0 behind all loops", x.about(1, 0), 1);
-        int sharedEnd = x.node(9, inner, 2, 0);
-        x.test(sharedEnd, 0, 6);
-        DUE.is("a loop as the end of a loop", x.about(2, 0), 1);
-    }
-
-    private static void deepestTree() {
+    private static void sixtyFourLevels() {
+        DUE.by("Terms", "NODES, at most 64");
         MutantRows x = new MutantRows();
         x.node(0, 0, 0, 0);
         for (int i = 1; i < 64; i++) {
@@ -226,18 +135,168 @@ public final class NodesTest {
         }
         x.test(63, 0, 0);
         DUE.is("64 levels", x.about(0, 0), 1);
-        DUE.is("each of 21 ADDs and CHOOSES takes two steps, each LOOP one", x.about(0, 1), 42 + 42 + 21 + 1);
+        DUE.is("21 ADDs and CHOOSEs take two steps each, LOOPs one", x.about(0, 1), 42 + 42 + 21 + 1);
+        DUE.is("all are covered", x.about(0, 2), 64);
         MutantRows y = new MutantRows();
         y.node(0, 1, 0, 0);
         for (int i = 1; i < 64; i++) {
             y.node(3, i - 1, i - 1, 0);
         }
-        y.test(11, 0, 1L << 11);
-        y.test(10, 0, 1L << 10);
         y.test(63, 0, 0);
-        DUE.is("4095 steps are too many", y.about(0, 0), -2);
-        DUE.is("2047 steps aren't", y.about(1, 0), 1);
-        DUE.is("the deepest is cut", y.about(2, 0), -2);
-        DUE.is("it came down to the first", y.about(2, 2), 64);
+        DUE.is("2 to the 64 steps are cut", y.about(0, 0), -2);
+        DUE.is("64 are covered", y.about(0, 2), 64);
+    }
+
+    private static void inSeveral() {
+        DUE.by("Terms", "are of earlier ones (one may be there in several)");
+        MutantRows x = new MutantRows();
+        x.node(1, 0, 0, 0);
+        DUE.is("three times in one", x.node(8, 0, 0, 0), 1);
+        DUE.is("twice in another", x.node(5, 0, 0, 0), 2);
+        DUE.is("both of them and it", x.node(8, 0, 1, 2), 3);
+        DUE.is("sum", x.node(3, 3, 2, 0), 4);
+        x.test(4, 7, 56);
+        DUE.is("7 + 7 * 7", x.about(0, 0), 1);
+        DUE.is("one is covered once", x.about(0, 2), 5);
+        DUE.is("but worked out each time", x.about(0, 1), 1 + 2 + 3 + 3);
+    }
+
+    private static void newNodes() {
+        DUE.by("Promise 2", "A new NODE: its number");
+        MutantRows x = new MutantRows();
+        DUE.is("first", x.node(1, 0, 0, 0), 0);
+        DUE.is("the same again is another", x.node(1, 0, 0, 0), 1);
+        DUE.is("behind a refused one", x.node(10, 0, 0, 0) + x.node(1, 0, 0, 0), -1 + 2);
+        x.test(0, 0, 0);
+        x.make(0);
+        DUE.is("behind other calls", x.node(3, 0, 2, 0), 3);
+    }
+
+    private static void fullOfNodes() {
+        DUE.by("Promise 2", "NONE if there are 64");
+        MutantRows x = new MutantRows();
+        DUE.is("refused ones don't count", x.node(-1, 0, 0, 0), -1);
+        for (int i = 0; i < 63; i++) {
+            x.node(0, i, 0, 0);
+        }
+        DUE.is("the 64th", x.node(3, 62, 61, 0), 63);
+        for (int kind = 0; kind < 10; kind++) {
+            DUE.is("a 65th of kind " + kind, x.node(kind, 0, 0, 0), -1);
+        }
+        x.test(63, 0, 62 + 61);
+        x.test(0, 0, 0);
+        DUE.is("the last one is what it was", x.about(0, 0), 1);
+        DUE.is("the first one is what it was", x.about(1, 0), 1);
+    }
+
+    private static void noSuchKind() {
+        DUE.by("Promise 2", "no such kind");
+        MutantRows x = new MutantRows();
+        x.node(1, 0, 0, 0);
+        for (int kind : Built.outside(10)) {
+            DUE.is("kind " + kind, x.node(kind, 0, 0, 0), -1);
+        }
+        DUE.is("nothing came by them", x.node(9, 0, 0, 0), 1);
+    }
+
+    private static void aIsNotEarlier() {
+        DUE.by("Promise 2", "or what it is of isn't earlier");
+        MutantRows x = new MutantRows();
+        for (int kind = 3; kind < 10; kind++) {
+            DUE.is("none is there yet, kind " + kind, x.node(kind, 0, 0, 0), -1);
+        }
+        x.node(1, 0, 0, 0);
+        x.node(1, 0, 0, 0);
+        long[] wrong = {2, 3, -1, 64, 1L << 32, (1L << 32) + 1, -(1L << 32), Built.LOW, Built.BIG};
+        for (int kind = 3; kind < 10; kind++) {
+            for (long a : wrong) {
+                DUE.is("a = " + a + ", kind " + kind, x.node(kind, a, 0, 0), -1);
+            }
+        }
+        DUE.is("a is the last one", x.node(3, 1, 0, 0), 2);
+    }
+
+    private static void bIsNotEarlier() {
+        DUE.by("Promise 2", "or what it is of isn't earlier");
+        MutantRows x = new MutantRows();
+        x.node(1, 0, 0, 0);
+        x.node(1, 0, 0, 0);
+        for (int kind = 3; kind < 10; kind++) {
+            for (int b : Built.outside(2)) {
+                DUE.is("b = " + b + ", kind " + kind, x.node(kind, 0, b, 0), -1);
+            }
+        }
+        DUE.is("b is the last one", x.node(3, 0, 1, 0), 2);
+    }
+
+    private static void cIsNotEarlier() {
+        DUE.by("Promise 2", "or what it is of isn't earlier");
+        MutantRows x = new MutantRows();
+        x.node(1, 0, 0, 0);
+        x.node(1, 0, 0, 0);
+        for (int c : Built.outside(2)) {
+            DUE.is("c = " + c, x.node(8, 0, 0, c), -1);
+        }
+        DUE.is("c is the last one", x.node(8, 0, 0, 1), 2);
+    }
+
+    private static void unusedIsNotLookedAt() {
+        DUE.by("Promise 2", "what a kind doesn't use counts for nothing");
+        MutantRows x = new MutantRows();
+        DUE.is("b, c of NUMBER", x.node(0, 7, -5, 99), 0);
+        DUE.is("a, b, c of INPUT", x.node(1, Built.BIG, -5, 99), 1);
+        DUE.is("a, b, c of ACC", x.node(2, Built.LOW, Integer.MIN_VALUE, Integer.MAX_VALUE), 2);
+        for (int kind = 3; kind < 8; kind++) {
+            DUE.is("c of kind " + kind, x.node(kind, 0, 0, -7), kind);
+        }
+        DUE.is("c of LOOP", x.node(9, 0, 0, 1000), 8);
+    }
+
+    private static void unusedIsNoPart() {
+        DUE.by("Promise 2", "what a kind doesn't use counts for nothing");
+        MutantRows x = new MutantRows();
+        x.node(1, 0, 0, 0);
+        x.node(0, 7, 0, 0);
+        x.node(1, 1, 1, 1);
+        x.node(3, 0, 2, 1);
+        x.node(9, 0, 2, 1);
+        x.test(2, -3, -3);
+        x.test(3, -3, -6);
+        x.test(4, -3, 0);
+        for (int t = 0; t < 3; t++) {
+            DUE.is("passes", x.about(t, 0), 1);
+            DUE.is("it isn't of the unused one", x.distance(t, 1), -1);
+        }
+        DUE.is("the INPUT's a", x.distance(0, 0), -1);
+        DUE.is("a of ADD is used", x.distance(1, 0), 1);
+        DUE.is("b of LOOP is used", x.distance(2, 2), 1);
+    }
+
+    private static void unusedMakesNoDifference() {
+        DUE.by("Promise 2", "what a kind doesn't use counts for nothing");
+        int[][] pairs = {{0, 7, 1, 2}, {1, 3, 4, 5}, {2, 6, 7, 8}};
+        for (int[] p : pairs) {
+            MutantRows x = new MutantRows();
+            x.node(0, 0, 0, 0);
+            x.node(p[0], p[1], p[2], p[3]);
+            x.node(p[0], p[0] == 0 ? p[1] : p[1] + 1, p[2] + 1, p[3] + 1);
+            x.node(4, 1, 0, 0);
+            x.node(4, 2, 0, 1);
+            x.node(8, 0, 3, 4);
+            x.test(5, 0, p[0] == 0 ? 7 : 0);
+            x.make(3);
+            DUE.is("built alike but for the unused, kind " + p[0], x.mutant(0, 4), 1);
+        }
+    }
+
+    private static void numberIsA() {
+        DUE.by("Promise 2", "NUMBER: a is the number");
+        long[] numbers = {0, 1, -1, 64, 1L << 32, Built.LOW, Built.BIG};
+        MutantRows x = new MutantRows();
+        for (int i = 0; i < numbers.length; i++) {
+            DUE.is("NUMBER " + numbers[i], x.node(0, numbers[i], 0, 0), i);
+            x.test(i, 5, numbers[i]);
+            DUE.is("it is that", x.about(i, 0), 1);
+        }
     }
 }

@@ -11,9 +11,10 @@ import java.util.Set;
 /** Random runs of calls, compared with a second, slow writing-down of the document. */
 public final class OracleTest {
     private static final Due DUE = new Due("OracleTest");
-    private static final int RUNS = 600;
-    // A move is one call or several: runs go past the 512 calls of the document, where the class simply goes on.
-    private static final int MOVES = 512;
+    private static final int RUNS = 4000;
+    // What later calls answer is free.
+    private static final int CALLS = 512;
+    private static final int CALLS_OF_MOVES = 440;
 
     public static void main(String[] args) {
         for (int seed = 0; seed < RUNS && DUE.wrong() < 10; seed++) {
@@ -379,6 +380,7 @@ public final class OracleTest {
         final MutantRows x = new MutantRows();
         final Oracle oracle = new Oracle();
         final int growth;
+        int calls;
 
         Run(int seed) {
             this.seed = seed;
@@ -387,7 +389,7 @@ public final class OracleTest {
         }
 
         void play() {
-            for (int i = 0; i < MOVES; i++) {
+            for (int i = 0; calls < CALLS_OF_MOVES; i++) {
                 if (i < growth || random.nextInt(30) == 0) {
                     callNode();
                 } else if (i < growth + 20 || random.nextInt(40) == 0) {
@@ -396,10 +398,13 @@ public final class OracleTest {
                     callOther();
                 }
             }
-            lookAtAll();
+            while (calls < CALLS) {
+                lookAround();
+            }
         }
 
         void due(String call, long got, long want) {
+            calls++;
             DUE.is("seed " + seed + ": " + call, got, want);
         }
 
@@ -443,7 +448,7 @@ public final class OracleTest {
             String call = "test(" + root + ", " + input + ", " + wanted + ")";
             int t = oracle.test(root, input, wanted);
             due(call, x.test(root, input, wanted), t);
-            for (int what = -1; what < 4; what++) {
+            for (int what = 0; what < 3; what++) {
                 due(call + ", about " + what, x.about(t, what), oracle.about(t, what));
             }
         }
@@ -525,28 +530,43 @@ public final class OracleTest {
                     ? index(oracle.nodes.size()) : numbers.get(random.nextInt(numbers.size()));
             long v = number();
             due("change(" + n + ", " + v + ")", x.change(n, v), oracle.change(n, v));
-            for (int t = 0; t < oracle.trials.size(); t++) {
-                for (int what = 0; what < 3; what++) {
-                    due("about(" + t + ", " + what + ") behind it", x.about(t, what), oracle.about(t, what));
-                }
-            }
-            for (int m = 0; m < oracle.mutants.size(); m++) {
-                for (int what = 2; what < 5; what++) {
-                    due("mutant(" + m + ", " + what + ") behind it", x.mutant(m, what), oracle.mutant(m, what));
-                }
+            due("known behind it", x.score(-1, 1), oracle.score(-1, 1));
+            for (int i = 0; i < 3; i++) {
+                lookAtTest();
+                lookAtMutant();
             }
         }
 
-        void lookAtAll() {
-            for (int m = -1; m <= oracle.mutants.size(); m++) {
-                for (int what = -1; what < 6; what++) {
-                    due("mutant(" + m + ", " + what + ")", x.mutant(m, what), oracle.mutant(m, what));
-                }
-                for (int i = -1; i < 25; i++) {
+        void lookAtTest() {
+            int t = within(oracle.trials.size());
+            int what = within(3);
+            due("about(" + t + ", " + what + ")", x.about(t, what), oracle.about(t, what));
+        }
+
+        void lookAtMutant() {
+            int m = within(oracle.mutants.size());
+            int what = within(5);
+            due("mutant(" + m + ", " + what + ")", x.mutant(m, what), oracle.mutant(m, what));
+        }
+
+        void lookAround() {
+            int m = within(oracle.mutants.size());
+            int i = index(24);
+            switch (random.nextInt(5)) {
+                case 0:
+                    lookAtTest();
+                    break;
+                case 1:
+                    lookAtMutant();
+                    break;
+                case 2:
                     due("order(" + m + ", " + i + ")", x.order(m, i), oracle.order(m, i));
-                }
-                due("miss(" + m + ")", x.miss(m), oracle.miss(m));
-                due("sampled(" + m + ")", x.sampled(m), oracle.sampled(m));
+                    break;
+                case 3:
+                    due("miss(" + m + ")", x.miss(m), oracle.miss(m));
+                    break;
+                default:
+                    due("sampled(" + m + ")", x.sampled(m), oracle.sampled(m));
             }
         }
     }
