@@ -14,7 +14,10 @@ public final class SamplesTest {
         stateWrapsAround();
         shiftedWithoutSign();
         moduloWhatIsLeft();
+        oneStateForEach();
+        changesPlaces();
         firstAreTheSample();
+        toldBySampled();
         latestSample();
         refusedOnesDrawNothing();
         sampledNone();
@@ -146,6 +149,29 @@ public final class SamplesTest {
         }
     }
 
+    private static void oneStateForEach() {
+        DUE.by("Promise 11", "for i from 0 to n - 1: x = x *");
+        MutantRows x = Built.numbers(10);
+        // Fewer are drawn by the same states: the row's beginning doesn't hang on n.
+        isRow(x, 42, 4);
+        isRow(x, 42, 4, 6, 0, 5, 1);
+        isRow(x, 42, 4, 6, 0, 5, 1, 2, 7, 3, 8);
+        isRow(x, 42, 4, 6, 0, 5, 1, 2, 7, 3, 8, 9);
+    }
+
+    private static void changesPlaces() {
+        DUE.by("Promise 11", "the i-th one changes places with that at i +");
+        for (long seed = -20; seed <= 20; seed++) {
+            MutantRows x = Built.numbers(12);
+            x.sample(seed, 12);
+            long seen = 0;
+            for (int i = 0; i < 12; i++) {
+                seen |= 1L << x.sampled(i);
+            }
+            DUE.is("each one once, by the seed " + seed, seen, (1L << 12) - 1);
+        }
+    }
+
     private static void firstAreTheSample() {
         DUE.by("Promise 11", "The first n are the sample.");
         MutantRows x = Built.numbers(10);
@@ -153,6 +179,20 @@ public final class SamplesTest {
         for (int n = 1; n <= 10; n++) {
             isRow(x, 0, java.util.Arrays.copyOf(due, n));
             DUE.is("no more than " + n, x.sampled(n), -1);
+        }
+    }
+
+    private static void toldBySampled() {
+        DUE.by("Promise 11", "it is told by sampled");
+        MutantRows x = Built.numbers(10);
+        x.sample(0, 3);
+        for (int again = 0; again < 2; again++) {
+            DUE.is("the third", x.sampled(2), 3);
+            DUE.is("the first", x.sampled(0), 7);
+            DUE.is("the second", x.sampled(1), 4);
+        }
+        for (int m = 0; m < 10; m++) {
+            DUE.is("a MUTANT stays at its number: " + m, x.mutant(m, 1), m);
         }
     }
 
